@@ -430,7 +430,6 @@ public final class RuleNetwork {
 
     /** The latest analysis, if there is one: where each state leads, and the attractors. */
     private static final class Analysis {
-        /** How many genes were analysed, 0 if nothing is. */
         int genes;
         int count;
         /** For each state, which of the states 0 .. 63 it leads to, as bits. */
@@ -439,13 +438,13 @@ public final class RuleNetwork {
         final long[] high = new long[MOST_STATES];
         final int[] homes = new int[MOST_STATES];
         final int[] leasts = new int[MOST_STATES];
+        /** How many states are analysed, 0 if nothing is. */
         private int states;
         /** The least states of all attractors, as bits. */
         private long lowLeasts;
         private long highLeasts;
 
         void forget() {
-            genes = 0;
             states = 0;
             count = 0;
         }

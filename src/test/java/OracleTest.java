@@ -24,6 +24,70 @@ public final class OracleTest {
         }
     }
 
+    /** A network that is made anew, and brought to where it was, before it has had 512 calls. */
+    private static final class Subject {
+        private final String text;
+        private final int[] fixed;
+        private RuleNetwork x;
+        private int calls;
+        private boolean analysed;
+        private boolean alone;
+
+        Subject(String text, int[] fixed) {
+            this.text = text;
+            this.fixed = fixed;
+            renew();
+        }
+
+        private void renew() {
+            x = new RuleNetwork();
+            leaveTraces();
+            put(x, text);
+            due("load", x.load(), fixed.length);
+            for (int g = 0; g < fixed.length; g++) {
+                if (fixed[g] != 2) {
+                    due("fix", x.fix(g, fixed[g]) ? 1 : 0, 1);
+                }
+            }
+            if (analysed) {
+                x.analyse(alone);
+            }
+            calls = 60;
+        }
+
+        /** What came before must not matter. */
+        private void leaveTraces() {
+            put(x, "a,a;b,b;c,c;d,d;e,e;f,f;g,g");
+            due("load before", x.load(), 7);
+            due("analyse before", x.analyse(true), 128);
+            due("cubes before", x.cubes(127), 1);
+            due("spread before", x.spread(6), 1);
+            due("fix before", x.fix(0, 1) && x.fix(6, 0) ? 1 : 0, 1);
+            put(x, "z,(!q|0&1");
+            due("load with a fault before", x.load(), -10);
+        }
+
+        RuleNetwork ask() {
+            if (calls == 500) {
+                renew();
+            }
+            calls++;
+            return x;
+        }
+
+        int analyse(boolean how) {
+            analysed = true;
+            alone = how;
+            return ask().analyse(how);
+        }
+
+        void fix(int g, int to) {
+            analysed = false;
+            due("fix", ask().fix(g, to) ? 1 : 0, 1);
+            fixed[g] = to;
+        }
+    }
+
     private static void put(RuleNetwork x, String text) {
         x.wipe();
         for (int i = 0; i < text.length(); i += 8) {
@@ -246,23 +310,20 @@ public final class OracleTest {
             text = maker.text.toString();
         } while (text.length() > 240);
         about = "\"" + text + "\"";
-        RuleNetwork x = new RuleNetwork();
-        put(x, text);
-        due("load", x.load(), n);
-        for (int g = 0; g < n; g++) {
-            due("gene", x.gene(names.charAt(g)), g);
-        }
         int[] fixed = new int[n];
         Arrays.fill(fixed, 2);
+        Subject x = new Subject(text, fixed);
+        for (int g = 0; g < n; g++) {
+            due("gene", x.ask().gene(names.charAt(g)), g);
+        }
         for (int round = 0; round < 3; round++) {
             compareRules(x, sums, fixed);
             compareAnalysis(x, values(sums, fixed), true);
             compareAnalysis(x, values(sums, fixed), false);
             int g = random.nextInt(n);
-            fixed[g] = random.nextInt(3);
-            due("fix", x.fix(g, fixed[g]) ? 1 : 0, 1);
-            due("attractor when nothing is analysed", x.attractor(0), -1);
-            due("size when nothing is analysed", x.size(0), 0);
+            x.fix(g, random.nextInt(3));
+            due("attractor when nothing is analysed", x.ask().attractor(0), -1);
+            due("size when nothing is analysed", x.ask().size(0), 0);
             about += " " + g + "=" + fixed[g];
         }
     }
@@ -277,18 +338,18 @@ public final class OracleTest {
         return values;
     }
 
-    private static void compareRules(RuleNetwork x, Sum[] sums, int[] fixed) {
+    private static void compareRules(Subject x, Sum[] sums, int[] fixed) {
         int[][] values = values(sums, fixed);
         for (int s = 0; s < values[0].length; s++) {
             int next = 0;
             for (int g = 0; g < sums.length; g++) {
-                due("value " + g + ", " + s, x.value(g, s), values[g][s]);
+                due("value " + g + ", " + s, x.ask().value(g, s), values[g][s]);
                 next += values[g][s] << g;
             }
-            due("next " + s, x.next(s), next);
+            due("next " + s, x.ask().next(s), next);
         }
         for (int g = 0; g < sums.length; g++) {
-            due("spread " + g, x.spread(g), spread(values[g], sums.length));
+            due("spread " + g, x.ask().spread(g), spread(values[g], sums.length));
         }
     }
 
@@ -336,7 +397,7 @@ public final class OracleTest {
         return seen;
     }
 
-    private static void compareAnalysis(RuleNetwork x, int[][] values, boolean alone) {
+    private static void compareAnalysis(Subject x, int[][] values, boolean alone) {
         int states = values[0].length;
         List<TreeSet<Integer>> walks = new ArrayList<>();
         for (int s = 0; s < states; s++) {
@@ -356,18 +417,18 @@ public final class OracleTest {
             for (int k = 0; k < attractors.size(); k++) {
                 home = attractors.get(k).contains(s) ? k : home;
             }
-            due("attractor " + s, x.attractor(s), home);
+            due("attractor " + s, x.ask().attractor(s), home);
         }
-        due("attractor of no state", x.attractor(states), -1);
+        due("attractor of no state", x.ask().attractor(states), -1);
         for (int k = 0; k < attractors.size(); k++) {
             compareAttractor(x, k, attractors, walks, values.length);
         }
-        due("size of none", x.size(attractors.size()), 0);
-        due("least of none", x.least(attractors.size()), -1);
-        due("cubes of none", x.cubes(attractors.size()), 0);
+        due("size of none", x.ask().size(attractors.size()), 0);
+        due("least of none", x.ask().least(attractors.size()), -1);
+        due("cubes of none", x.ask().cubes(attractors.size()), 0);
     }
 
-    private static void compareAttractor(RuleNetwork x, int k, List<TreeSet<Integer>> attractors,
+    private static void compareAttractor(Subject x, int k, List<TreeSet<Integer>> attractors,
             List<TreeSet<Integer>> walks, int n) {
         TreeSet<Integer> set = attractors.get(k);
         int basin = 0;
@@ -378,16 +439,16 @@ public final class OracleTest {
             basin += here ? 1 : 0;
             only += here && all == 1 ? 1 : 0;
         }
-        due("size " + k, x.size(k), set.size());
-        due("least " + k, x.least(k), set.first());
-        due("basin " + k, x.basin(k), basin);
-        due("only " + k, x.only(k), only);
+        due("size " + k, x.ask().size(k), set.size());
+        due("least " + k, x.ask().least(k), set.first());
+        due("basin " + k, x.ask().basin(k), basin);
+        due("only " + k, x.ask().only(k), only);
         List<Integer> cubes = cubes(set, n, 0);
-        due("cubes " + k, x.cubes(k), cubes.size());
+        due("cubes " + k, x.ask().cubes(k), cubes.size());
         for (int i = 0; i < cubes.size(); i++) {
-            due("cube " + k + ", " + i, x.cube(k, i), cubes.get(i));
+            due("cube " + k + ", " + i, x.ask().cube(k, i), cubes.get(i));
         }
-        due("cube behind the last", x.cube(k, cubes.size()), -1);
+        due("cube behind the last", x.ask().cube(k, cubes.size()), -1);
     }
 
     /** The cubes of a set of states over the genes from k on, with the states shifted so that gene k is bit 0. */

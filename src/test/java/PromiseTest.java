@@ -144,6 +144,9 @@ public final class PromiseTest {
         dueLoad("a,a&|a", -5);
         dueLoad("a,!", -4);
         dueLoad("a,!&a", -4);
+        dueLoad("a,0" + "|a".repeat(118) + " ", 1);
+        dueLoad("a,1" + "&a".repeat(118) + "&", -241);
+        dueLoad("a,1" + "&a".repeat(118) + "?", -240);
         dueLoad("a,`", -3);
         dueLoad("a,{", -3);
         loadGeneFaults();
@@ -199,6 +202,12 @@ public final class PromiseTest {
         due("load with a stranger", x.load(), -7);
         due("gene a after a stranger", x.gene('a'), 0);
         due("analysed after a stranger", x.attractor(3), 0);
+        put(x, "c,!c;d,c");
+        due("load", x.load(), 2);
+        due("value of gene c", x.value(0, 2), 1);
+        due("value of gene d", x.value(1, 2), 0);
+        x.fix(0, 1);
+        x.analyse(false);
         put(x, "b,b");
         due("load", x.load(), 1);
         due("gene b", x.gene('b'), 0);
@@ -418,6 +427,14 @@ public final class PromiseTest {
         due("cubes 1", y.cubes(1), 1);
         promise = 18;
         due("cube 1, 0", y.cube(1, 0), 2 + 64 + 4096);
+        // With a fixed gene 6 only the first is left, and states lead by those that the other had.
+        y.fix(6, 0);
+        promise = 11;
+        due("analyse", y.analyse(true), 1);
+        promise = 15;
+        due("basin 0", y.basin(0), 128);
+        promise = 16;
+        due("only 0", y.only(0), 128);
     }
 
     private static void cubes() {
