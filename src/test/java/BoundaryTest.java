@@ -1361,6 +1361,16 @@ public final class BoundaryTest {
                 due("only(" + i + ")", x.only(i), 0);
             }
         }
+        // All states of one attractor lead to one another, and to no other attractor's.
+        for (int n = 1; n <= 7; n++) {
+            RuleNetwork x = loaded(turners(n));
+            due("analyse", x.analyse(true), 1);
+            due("only of all", x.only(0), 1 << n);
+            due("analyse", x.analyse(false), 1 << (n - 1));
+            for (int k = 0; k < 1 << (n - 1); k++) {
+                due("only(" + k + ") of pairs", x.only(k), 2);
+            }
+        }
         // Alone, all but the two ends lead to both of them.
         RuleNetwork y = loaded("a,b|g;b,a|c;c,b|d;d,c|e;e,d|f;f,e|g;g,f|a");
         due("analyse", y.analyse(true), 2);
